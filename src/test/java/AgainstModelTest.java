@@ -10,8 +10,8 @@ public final class AgainstModelTest {
         "weighed", "judge", "rowOf", "bestWait", "motions", "periods", "fitting", "count", "undo", "type",
         "clearText", "fault", "play"};
     /** How often each call is made, in the order of the names. */
-    private static final int[] OFTEN = {4, 4, 3, 4, 4, 4, 7, 2, 4, 4, 5, 7, 6, 4, 3, 3, 3, 4, 3,
-        4, 5, 5, 2, 3, 3, 4, 5, 3, 1, 1, 2, 2};
+    private static final int[] OFTEN = {3, 3, 2, 4, 2, 4, 8, 2, 4, 4, 5, 7, 7, 4, 5, 4, 5, 4, 4,
+        6, 7, 6, 3, 3, 3, 4, 5, 3, 1, 1, 1, 1};
     private static final int[][] SETTING_RANGES =
         {{1, 10}, {4, 16}, {0, 9}, {1, 255}, {0, 255}, {0, 20}, {0, 20}, {0, 100}};
 
@@ -36,7 +36,7 @@ public final class AgainstModelTest {
     private void go() {
         begin();
         while (made < CALLS) {
-            if (random.nextInt(40) == 0) {
+            if (random.nextInt(60) == 0) {
                 typeText();
             } else {
                 callOne(pickCall());
@@ -46,15 +46,18 @@ public final class AgainstModelTest {
 
     /** Most runs start with settings and things with which there is something to see. */
     private void begin() {
-        int changes = random.nextInt(9);
+        int changes = random.nextBoolean() ? random.nextInt(9) : 0;
         for (int i = 0; i < changes; i++) {
             callOne(0);
         }
-        int things = random.nextInt(5);
+        if (random.nextBoolean()) {
+            call(0, 3, in(1, 20));
+        }
+        int things = 1 + random.nextInt(4);
         for (int i = 0; i < things; i++) {
             callOne(1);
         }
-        if (random.nextInt(4) == 0) {
+        if (random.nextInt(12) == 0) {
             for (int i = 0; i < 101 && made < CALLS - 200; i++) {
                 call(11, 200);
             }
@@ -118,13 +121,13 @@ public final class AgainstModelTest {
             case 1: callThing(); break;
             case 2: call(which, aThing(), near(10, -20, 20)); break;
             case 3: call(which, aThing(), in(0, 6)); break;
-            case 4: call(which, in(0, 9), in(0, 1)); break;
+            case 4: call(which, in(0, 9), random.nextInt(3) == 0 ? in(0, 1) : 0); break;
             case 5: call(which, aRow(), aColumn(), random.nextBoolean() ? in(0, 60) : in(0, 20000)); break;
             case 7: case 17: case 18: case 25: call(which, aFrame()); break;
             case 8: call(which, aFrame(), in(0, 2)); break;
             case 9: call(which, aFrame(), aRow(), aColumn()); break;
             case 10: call(which, aFrame(), aRow()); break;
-            case 11: call(which, random.nextInt(4) == 0 ? in(1, 200) : in(1, 9)); break;
+            case 11: call(which, random.nextInt(12) == 0 ? in(1, 200) : in(1, 5)); break;
             case 12: call(which, aFrame(), aFrame(), aRow()); break;
             case 13: case 15: case 16: case 19: case 20: call(which, aFrame(), aFrame()); break;
             case 14: call(which, aFrame(), aFrame(), random.nextBoolean() ? in(-2, 2) : in(-8, 8)); break;
@@ -141,8 +144,10 @@ public final class AgainstModelTest {
     private void callSet() {
         int what = in(0, 7);
         int[] range = what >= 0 && what < 8 ? SETTING_RANGES[what] : new int[] {0, 9};
-        if (what == 3 && random.nextBoolean()) {
+        if (what == 3 && random.nextInt(4) != 0) {
             call(0, what, in(1, 60));
+        } else if (what == 2 && random.nextBoolean()) {
+            call(0, what, in(0, 3));
         } else {
             call(0, what, in(range[0], range[1]));
         }
@@ -156,8 +161,9 @@ public final class AgainstModelTest {
     private int[] someThing() {
         int top = random.nextBoolean() ? in(0, 2) : in(0, 9);
         int bottom = in(Math.max(0, Math.min(9, top)), 9);
-        int position = random.nextInt(8) == 0 ? in(-20000, 20000) : near(100, -3, 14);
-        int speed = random.nextInt(3) == 0 ? in(-200, 200) : near(10, -10, 10);
+        int speed = random.nextInt(6) == 0 ? in(-200, 200) : near(10, -8, 8);
+        int inView = near(100, -3, 14) - speed * (random.nextInt(4) == 0 ? 0 : model.count(2));
+        int position = random.nextInt(8) == 0 || Math.abs(inView) > 20000 ? in(-20000, 20000) : inView;
         int width = random.nextInt(4) == 0 ? in(50, 1600) : near(50, 2, 10);
         return new int[] {top, bottom, position, speed, width, in(0, 255)};
     }
@@ -209,7 +215,7 @@ public final class AgainstModelTest {
                     order.append(i == 0 ? "" : ",").append(number(n[i]));
                 }
                 return order.append(";").toString();
-            default: return "g" + number(random.nextInt(4) == 0 ? in(1, 200) : in(1, 9)) + ";";
+            default: return "g" + number(random.nextInt(6) == 0 ? in(1, 200) : in(1, 5)) + ";";
         }
     }
 
