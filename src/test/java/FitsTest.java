@@ -9,12 +9,14 @@ public final class FitsTest {
         promise25WithoutFrames();
         promise25();
         promise25Others();
+        promise25AllRows();
         promise26();
         promise26Others();
         promise27();
         promise28();
         promise29();
         promise29Things();
+        promise29Frames();
         promise29Errors();
         Due.end();
     }
@@ -94,6 +96,25 @@ public final class FitsTest {
         dueMotions("the lamp is dark now", x, 0, 0, NONE, NONE, NONE, NONE);
         x.set(7, 100);
         dueMotions("the lamp is not dimmed", x, 0, 21, 100, -100, 100, 100);
+    }
+
+    /** Only the last row of the last frame tells anything of the thing. */
+    private static void promise25AllRows() {
+        RowVotes x = new RowVotes();
+        x.set(0, 10);
+        x.set(1, 4);
+        x.set(2, 0);
+        x.thing(9, 9, 100, 0, 100, 200);
+        x.blind(9, 1);
+        for (int i = 0; i < 4; i++) {
+            x.shoot();
+        }
+        dueMotions("its row is blinded in all frames", x, 0, 735, -1000, -100, 2400, 100);
+        x.blind(9, 0);
+        x.shoot();
+        dueMotions("its row is blinded in four frames", x, 0, 21, 100, -100, 100, 100);
+        x.forget(4);
+        dueMotions("that frame is forgotten", x, 0, 735, -1000, -100, 2400, 100);
     }
 
     private static RowVotes lamp(int period, int darkTicks) {
@@ -273,6 +294,45 @@ public final class FitsTest {
         Due.is("29: the thing is gone", x.thingOf(1, 0), INVALID);
         Due.is("29: undo set", x.undo(), 0);
         Due.is("29: the setting is back", x.count(14), 20);
+    }
+
+    /** A frame that is dropped and taken anew is restored with its time, its pixels and its blinded rows. */
+    private static void promise29Frames() {
+        RowVotes x = new RowVotes();
+        x.thing(0, 0, 0, 0, 100, 200);
+        x.blind(1, 1);
+        x.shoot();
+        x.forget(0);
+        x.blind(1, 0);
+        x.set(4, 33);
+        x.pass(1);
+        x.undo();
+        x.undo();
+        x.undo();
+        Due.is("29: undo forget", x.undo(), 0);
+        Due.is("29: the row was blinded", x.frameOf(0, 1), 2);
+        Due.is("29: the pixel 0", x.pixel(0, 0, 0), 200);
+        x = new RowVotes();
+        for (int i = 0; i < 5; i++) {
+            x.thing(0, 9, 100 * i, 0, 100, 200);
+            x.blind(i, 1);
+            x.shoot();
+            x.pass(1);
+        }
+        x.blind(9, 1);
+        x.shoot();
+        x.shoot();
+        x.shoot();
+        Due.is("29: the oldest frame ahead of undo", x.frameOf(0, 1), 15);
+        x.undo();
+        x.undo();
+        x.undo();
+        for (int i = 0; i < 5; i++) {
+            Due.is("29: blinded rows of frame " + i, x.frameOf(i, 1), (2 << i) - 1);
+            Due.is("29: time of frame " + i, x.frameOf(i, 0), i);
+            Due.is("29: ground of frame " + i, x.pixel(i, 5, 11), 20);
+            Due.is("29: thing of frame " + i, x.pixel(i, 5, 3), i < 3 ? 20 : 200);
+        }
     }
 
     private static void promise29Errors() {

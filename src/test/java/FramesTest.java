@@ -13,6 +13,7 @@ public final class FramesTest {
         promise11();
         promise12();
         promise13();
+        smallerFrames();
         Due.end();
     }
 
@@ -111,6 +112,10 @@ public final class FramesTest {
         x.shoot();
         Due.is("10: its time", x.frameOf(0, 0), 7);
         Due.is("10: its blinded rows", x.frameOf(0, 1), 34);
+        x.blind(6, 1);
+        x.shoot();
+        Due.is("10: the row 6 is not there", x.frameOf(1, 1), 34);
+        x.forget(1);
         Due.is("10: its edges", x.frameOf(0, 2), 4);
         x.set(3, 41);
         Due.is("10: its edges with another threshold", x.frameOf(0, 2), 0);
@@ -173,6 +178,37 @@ public final class FramesTest {
         x.thing(5, 5, 1500, 0, 100, 255);
         x.shoot();
         Due.is("12: the last column", x.edges(0, 5), 32768);
+    }
+
+    /** Nothing is left of the rows and columns that larger frames had. */
+    private static void smallerFrames() {
+        RowVotes x = new RowVotes();
+        x.set(0, 10);
+        x.set(1, 16);
+        x.set(2, 0);
+        x.thing(0, 9, 100, 100, 1600, 200);
+        for (int i = 0; i < 5; i++) {
+            x.shoot();
+        }
+        Due.is("10: edges of a large frame", x.frameOf(4, 2), 10);
+        for (int i = 0; i < 5; i++) {
+            x.forget(0);
+        }
+        x.set(0, 3);
+        x.set(1, 5);
+        x.shoot();
+        x.pass(1);
+        x.shoot();
+        Due.is("10: edges of a small frame", x.frameOf(1, 2), 3);
+        Due.is("12: edges in a short row", x.edges(1, 2), 4);
+        Due.is("16: voters of small frames", x.voters(0, 1, 1), 7);
+        Due.is("22: judges of small frames", x.judge(0, 1), 3);
+        Due.is("26: periods of small frames", x.periods(), (1 << 21) - 1);
+        Due.is("27: fitting of a small frame", x.fitting(1), 7);
+        x.blind(1, 1);
+        x.shoot();
+        Due.is("27: fitting of a small frame with a blinded row", x.fitting(2), 5);
+        Due.is("16: voters of a frame with a blinded row", x.voters(0, 2, 1), 5);
     }
 
     private static void promise13() {

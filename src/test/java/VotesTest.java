@@ -10,6 +10,8 @@ public final class VotesTest {
         promise14None();
         promise14And16And17And15();
         promise15None();
+        promise15Reach();
+        promise17And20AtOnce();
         promise18();
         promise19And20();
         promise19None();
@@ -148,6 +150,39 @@ public final class VotesTest {
         x.shoot();
         Due.is("15: row 3 is blinded", x.shift(0, 2), 1);
         Due.is("17: nobody is left but row 2", x.dissent(0, 2), 4);
+    }
+
+    private static void promise15Reach() {
+        RowVotes x = still();
+        x.thing(0, 5, 200, 100, 1600, 200);
+        x.shoot();
+        x.pass(8);
+        x.shoot();
+        x.pass(1);
+        x.shoot();
+        Due.is("15: 8 columns back", x.shift(1, 0), -8);
+        Due.is("16: 8 columns back", x.voters(1, 0, -8), 63);
+        Due.is("21: 8 columns back", x.weighed(1, 0), -8);
+        Due.is("15: 8 columns", x.shift(0, 1), 8);
+        Due.is("16: 8 columns", x.voters(0, 1, 8), 63);
+        Due.is("15: 1 column", x.shift(1, 2), 1);
+        Due.is("15: 9 columns", x.shift(0, 2), NONE);
+        Due.is("22: 9 columns", x.judge(0, 2), NONE);
+        Due.is("22: 8 columns back", x.judge(1, 0), 6);
+    }
+
+    /** Each of these is the first call that looks at votes. */
+    private static void promise17And20AtOnce() {
+        RowVotes x = still();
+        x.thing(0, 1, 200, 100, 200, 200);
+        x.thing(2, 2, 200, 200, 200, 200);
+        x.shoot();
+        x.pass(1);
+        x.shoot();
+        Due.is("17: at once", x.dissent(0, 1), 4);
+        Due.is("20: at once", slanted(4, 3, 0, 100).slantSpeed(0), 100);
+        x.forget(0);
+        Due.is("14: the rows of a frame that is forgotten", x.vote(0, 1, 0), INVALID);
     }
 
     private static void promise18() {
