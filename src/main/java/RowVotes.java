@@ -685,7 +685,7 @@ public final class RowVotes {
             becomeInFrames(other);
             time = other.time;
             blinded = other.blinded;
-            for (int row = 0; row < MOST_ROWS && row < agreed.length && row < dissented.length; row++) {
+            for (int row = 0; row < agreed.length && row < dissented.length; row++) {
                 agreed[row] = numberIn(other.agreed, row);
                 dissented[row] = numberIn(other.dissented, row);
             }

@@ -16,6 +16,7 @@ public final class FitsTest {
         promise28();
         promise29();
         promise29Things();
+        promise29Settings();
         promise29Frames();
         promise29Errors();
         Due.end();
@@ -294,6 +295,16 @@ public final class FitsTest {
         Due.is("29: the thing is gone", x.thingOf(1, 0), INVALID);
         Due.is("29: undo set", x.undo(), 0);
         Due.is("29: the setting is back", x.count(14), 20);
+    }
+
+    private static void promise29Settings() {
+        int[] first = {6, 12, 1, 40, 20, 0, 0, 50};
+        for (int what = 0; what <= 7; what++) {
+            RowVotes x = new RowVotes();
+            x.set(what, 9);
+            Due.is("29: undo set(" + what + ", 9)", x.undo(), 0);
+            Due.is("29: setting " + what, x.count(10 + what), first[what]);
+        }
     }
 
     /** A frame that is dropped and taken anew is restored with its time, its pixels and its blinded rows. */
