@@ -4,7 +4,8 @@ import java.util.Random;
 public final class AgainstModelTest {
     private static final int CALLS = 512;
     private static final int RUNS = 600;
-    private static final int[] ODD = {Integer.MIN_VALUE, Integer.MAX_VALUE, -1, 256, 1000000, -1000000, 31, 32, -32};
+    private static final int[] ODD = {Integer.MIN_VALUE, Integer.MAX_VALUE, Integer.MIN_VALUE + 1,
+        Integer.MAX_VALUE - 1, -1, 256, 1000000, -1000000, 31, 32, -32, 65536 + 's', 1 << 30};
     private static final String[] NAMES = {"set", "thing", "turn", "thingOf", "blind", "shows", "shoot", "forget",
         "frameOf", "pixel", "edges", "pass", "vote", "shift", "voters", "dissent", "speed", "slant", "slantSpeed",
         "weighed", "judge", "rowOf", "bestWait", "motions", "periods", "fitting", "count", "undo", "type",
@@ -17,6 +18,8 @@ public final class AgainstModelTest {
 
     private final Random random;
     private final String run;
+    /** In a wild run every fourth argument is a boundary, beyond one, or odd. */
+    private final boolean wild;
     private final RowVotes real = new RowVotes();
     private final PlainModel model = new PlainModel();
     private int made = 0;
@@ -24,6 +27,7 @@ public final class AgainstModelTest {
     private AgainstModelTest(int seed) {
         random = new Random(seed);
         run = "run " + seed;
+        wild = seed % 8 == 0;
     }
 
     public static void main(String[] args) {
@@ -79,7 +83,7 @@ public final class AgainstModelTest {
     }
 
     private int in(int least, int most) {
-        int odds = random.nextInt(100);
+        int odds = random.nextInt(wild ? 24 : 100);
         if (odds == 0) {
             return ODD[random.nextInt(ODD.length)];
         }
@@ -169,17 +173,19 @@ public final class AgainstModelTest {
     }
 
     private void typeText() {
-        if (random.nextInt(8) != 0) {
+        if (random.nextInt(8) != 0 && made < CALLS) {
             call(29);
         }
         String text = someText();
         for (int i = 0; i < text.length() && made < CALLS; i++) {
             call(28, text.charAt(i));
         }
-        for (int what = 0; what < 3; what++) {
+        for (int what = 0; what < 3 && made < CALLS; what++) {
             call(30, what);
         }
-        call(31);
+        if (made < CALLS) {
+            call(31);
+        }
     }
 
     private String someText() {
