@@ -16,6 +16,7 @@ public final class BoundaryFramesTest {
         droppedAsForgotten();
         droppedOverAgain();
         forgotten();
+        forgottenOfFewer();
         forgottenAll();
         framesTaken();
         numbersOfFrames();
@@ -307,6 +308,31 @@ public final class BoundaryFramesTest {
             Due.is("a frame is taken", x.shoot(), 5);
             Due.is("it is the last one", x.frameOf(4, 0), 5);
             Due.is("the oldest one is still there", x.frameOf(0, 0), gone == 0 ? 1 : 0);
+        }
+    }
+
+    /** One of some frames is forgotten, then there are taken as many as are kept; each has another ground and another time. */
+    private static void forgottenOfFewer() {
+        Due.sentence("When a frame is forgotten, the numbers of those behind it become less by 1.");
+        for (int frames = 1; frames <= 5; frames++) {
+            for (int gone = 0; gone < frames; gone++) {
+                RowVotes x = Cameras.of(2, 4, 0);
+                for (int taken = 0; taken <= 5; taken++) {
+                    if (taken == frames) {
+                        Due.is("forget(" + gone + ") of " + frames, x.forget(gone), frames - 1);
+                    }
+                    x.set(4, 100 + taken);
+                    x.shoot();
+                    x.pass(1);
+                }
+                for (int frame = 0; frame < 5; frame++) {
+                    int due = frame < gone ? frame : frame + 1;
+                    String of = frame + ", " + gone + " of " + frames + " was forgotten";
+                    Due.is("time of " + of, x.frameOf(frame, 0), due);
+                    Due.is("first pixel of " + of, x.pixel(frame, 0, 0), 100 + due);
+                    Due.is("last pixel of " + of, x.pixel(frame, 1, 3), 100 + due);
+                }
+            }
         }
     }
 
