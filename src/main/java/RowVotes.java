@@ -436,18 +436,22 @@ public final class RowVotes {
     /** Keeps the present state as the latest one of the history; a fifth state takes the place of the oldest one. */
     private void recordState() {
         if (states >= history.length) {
-            Scene oldest = history[0];
-            for (int i = 1; i < history.length; i++) {
-                history[i - 1] = history[i];
-            }
-            history[history.length - 1] = oldest;
-            states = history.length - 1;
+            dropOldestState();
         }
-        Scene kept = history[states];
-        if (kept != null) {
-            kept.become(now);
+        if (states >= 0 && states < history.length && history[states] != null) {
+            history[states].become(now);
             states++;
         }
+    }
+
+    /** Moves the oldest state behind the others, where it is written to next. */
+    private void dropOldestState() {
+        for (int i = 1; i < history.length; i++) {
+            Scene oldest = history[i - 1];
+            history[i - 1] = history[i];
+            history[i] = oldest;
+        }
+        states = history.length - 1;
     }
 
     private boolean isPlace(int row, int column) {
